@@ -26,6 +26,7 @@ public final class GridLaws {
     private static final int ALPHABET = 26;
     private static final int BLANK = 0;
     private static final int BLACK = 27;
+    private static final int SQUARES = 28;
 
     private final Tape tape = new Tape();
     private Law law = new Law();
@@ -135,14 +136,7 @@ public final class GridLaws {
     }
 
     public int fits(int slot) {
-        if (!board.hasSlot(slot)) {
-            return NONE;
-        }
-        int bits = 0;
-        for (int act = 0; act < law.actCount; act++) {
-            bits |= board.canHold(slot, act) ? 1 << act : 0;
-        }
-        return bits;
+        return board.hasSlot(slot) ? board.actsThatFit(slot) : NONE;
     }
 
     public int places(int act) {
@@ -151,7 +145,7 @@ public final class GridLaws {
         }
         int bits = 0;
         for (int slot = 0; slot < board.slotCount; slot++) {
-            bits |= board.canHold(slot, act) ? 1 << slot : 0;
+            bits |= isIn(board.actsThatFit(slot), act) ? 1 << slot : 0;
         }
         return bits;
     }
@@ -161,10 +155,7 @@ public final class GridLaws {
     }
 
     public int write(int act, int slot) {
-        if (!law.hasAct(act) || !board.hasSlot(slot)) {
-            return NONE;
-        }
-        if (!board.mayWrite(slot, act)) {
+        if (!law.hasAct(act) || !board.hasSlot(slot) || !isIn(board.actsToWrite(slot), act)) {
             return NONE;
         }
         int fresh = board.putLetters(slot, act);
@@ -605,6 +596,9 @@ public final class GridLaws {
         final int[] actLengths = new int[MAX_ACTS];
         final int[] letters = new int[MAX_ACTS * MAX_LETTERS];
         final int[] vowels = new int[MAX_ACTS];
+        // ACTS as bits: those of a length, and those that could stand where a CELL has a letter.
+        final int[] ofLength = new int[MAX_LETTERS + 1];
+        final int[] withLetter = new int[MAX_LETTERS * SQUARES];
         final int[] wanted = new int[MAX_PARTIES * MAX_ACTS];
         int blackCount = 0;
         int blackCells = 0;
@@ -623,6 +617,8 @@ public final class GridLaws {
             nevers.count = 0;
             formula.clear();
             Arrays.fill(wanted, 0);
+            Arrays.fill(ofLength, 0);
+            Arrays.fill(withLetter, 0);
         }
 
         boolean hasParty(int party) {
@@ -666,20 +662,28 @@ public final class GridLaws {
         }
 
         void addAct(long name, int length) {
-            if (actCount >= MAX_ACTS || length > MAX_LETTERS) {
+            if (actCount >= MAX_ACTS || length < 0 || length > MAX_LETTERS) {
                 return;
             }
             actNames[actCount] = name;
             actLengths[actCount] = length;
+            ofLength[length] |= 1 << actCount;
             vowels[actCount] = 0;
             long rest = name;
             for (int i = length - 1; i >= 0; i--) {
-                int letter = (int) (rest & 31);
+                addLetter(i, (int) (rest & 31));
                 rest >>>= 5;
-                letters[actCount * MAX_LETTERS + i] = letter;
-                vowels[actCount] += isVowel(letter) ? 1 : 0;
             }
             actCount++;
+        }
+
+        private void addLetter(int i, int letter) {
+            letters[actCount * MAX_LETTERS + i] = letter;
+            vowels[actCount] += isVowel(letter) ? 1 : 0;
+            withLetter[i * SQUARES + BLANK] |= 1 << actCount;
+            if (letter <= ALPHABET) {
+                withLetter[i * SQUARES + letter] |= 1 << actCount;
+            }
         }
 
         private static boolean isVowel(int letter) {
@@ -777,7 +781,7 @@ public final class GridLaws {
 
         private void readWord() {
             word = 0;
-            while (isLetter(next)) {
+            while (next < length && isLetter(next)) {
                 word = word * 32 + (bytes[next] - 'a' + 1);
                 next++;
             }
@@ -787,7 +791,7 @@ public final class GridLaws {
 
         private void readNumber() {
             number = 0;
-            while (isDigit(next)) {
+            while (next < length && isDigit(next)) {
                 number = number * 10 + (bytes[next] - '0');
                 next++;
             }
@@ -1354,26 +1358,20 @@ public final class GridLaws {
 
         /** For a SLOT without a blank CELL: there, what FITS is what it spells. */
         int actSpelledIn(int slot) {
-            for (int act = 0; act < law.actCount; act++) {
-                if (canHold(slot, act)) {
-                    return act;
-                }
-            }
-            return NONE;
+            int bits = actsThatFit(slot);
+            return bits == 0 ? NONE : Integer.numberOfTrailingZeros(bits);
         }
 
-        boolean canHold(int slot, int act) {
-            int length = lengths[slot];
-            if (law.actLengths[act] != length) {
-                return false;
+        int actsThatFit(int slot) {
+            int bits = law.ofLength[lengths[slot]];
+            for (int i = 0; i < lengths[slot] && bits != 0; i++) {
+                bits &= law.withLetter[i * SQUARES + cells[slotCells[slot * MAX_LETTERS + i]]];
             }
-            for (int i = 0; i < length; i++) {
-                int here = cells[slotCells[slot * MAX_LETTERS + i]];
-                if (here != BLANK && here != law.letters[act * MAX_LETTERS + i]) {
-                    return false;
-                }
-            }
-            return true;
+            return bits;
+        }
+
+        int actsToWrite(int slot) {
+            return actsThatFit(slot) & ~inForce;
         }
 
         int othersIn(int slot, int act) {
@@ -1383,10 +1381,6 @@ public final class GridLaws {
                 count += here != BLANK && here != law.letterOf(act, i) ? 1 : 0;
             }
             return count;
-        }
-
-        boolean mayWrite(int slot, int act) {
-            return !isInForce(act) && canHold(slot, act);
         }
 
         /** Answers which CELLS of the SLOT were blank, as bits: what takeLetters wants. */
@@ -1412,26 +1406,27 @@ public final class GridLaws {
 
         int sit() {
             int written = NONE;
-            if (law.partyCount > 0) {
-                int act = mostWanted(year % law.partyCount);
-                int slot = act == NONE ? NONE : firstPlace(act);
-                if (slot != NONE) {
-                    putLetters(slot, act);
-                    lookAtSlots();
-                    written = 100 * act + slot;
-                }
+            int act = law.partyCount > 0 ? mostWanted(year % law.partyCount) : NONE;
+            int slot = act == NONE ? NONE : firstPlace(act);
+            if (slot != NONE) {
+                putLetters(slot, act);
+                lookAtSlots();
+                written = 100 * act + slot;
             }
             year++;
             return written;
         }
 
         private int mostWanted(int party) {
+            int open = 0;
+            for (int slot = 0; slot < slotCount; slot++) {
+                open |= actsToWrite(slot);
+            }
             int most = 0;
             int wanted = NONE;
             for (int act = 0; act < law.actCount; act++) {
-                int want = law.wantOf(party, act);
-                if (want > most && !isInForce(act) && firstPlace(act) != NONE) {
-                    most = want;
+                if (isIn(open, act) && law.wantOf(party, act) > most) {
+                    most = law.wantOf(party, act);
                     wanted = act;
                 }
             }
@@ -1440,7 +1435,7 @@ public final class GridLaws {
 
         private int firstPlace(int act) {
             for (int slot = 0; slot < slotCount; slot++) {
-                if (canHold(slot, act)) {
+                if (isIn(actsThatFit(slot), act)) {
                     return slot;
                 }
             }
@@ -1682,8 +1677,6 @@ public final class GridLaws {
 
     /** Goes through all FILLINGS of a board, and leaves it as it was. */
     private static final class Filler {
-        private static final int LETTERS = ALPHABET + 1;
-
         private final Board board;
         private final Sights sights;
         private boolean isSeeing = false;
@@ -1696,7 +1689,7 @@ public final class GridLaws {
         final int[] best = new int[MAX_SLOTS];
         private final int[] given = new int[MAX_SLOTS];
         private final int[] gains = new int[MAX_SLOTS * MAX_ACTS];
-        private final int[] tally = new int[MAX_CELLS * LETTERS];
+        private final int[] tally = new int[MAX_CELLS * SQUARES];
 
         Filler(Board trial, Sights sights) {
             board = trial;
@@ -1737,8 +1730,9 @@ public final class GridLaws {
                 }
                 return;
             }
-            for (int act = 0; act < board.law.actCount && !spent; act++) {
-                if (!isIn(used, act) && board.mayWrite(slot, act)) {
+            int open = board.actsToWrite(slot) & ~used;
+            for (int act = 0; act < MAX_ACTS && open >>> act != 0 && !spent; act++) {
+                if (isIn(open, act)) {
                     tried++;
                     spent = tried > MAX_TRIED;
                     if (!spent) {
@@ -1773,14 +1767,12 @@ public final class GridLaws {
 
         private void countLetters() {
             for (int cell = 0; cell < board.cellCount; cell++) {
-                if (board.hasLetter(cell)) {
-                    tally[cell * LETTERS + board.cells[cell]]++;
-                }
+                tally[cell * SQUARES + board.cells[cell]]++;
             }
         }
 
         int printsWith(int cell, int letter) {
-            return tally[cell * LETTERS + letter];
+            return tally[cell * SQUARES + letter];
         }
 
         int mostPrintsBehind(int cell) {
@@ -1811,8 +1803,9 @@ public final class GridLaws {
             outcome = 0;
             board.findGains(gains, party, other);
             for (int slot = 0; slot < board.slotCount; slot++) {
-                for (int act = 0; act < board.law.actCount; act++) {
-                    if (board.mayWrite(slot, act)) {
+                int open = board.actsToWrite(slot);
+                for (int act = 0; act < MAX_ACTS && open >>> act != 0; act++) {
+                    if (isIn(open, act)) {
                         tryMove(slot, act);
                     }
                 }
@@ -1837,8 +1830,9 @@ public final class GridLaws {
             int worst = before;
             answer = NONE;
             for (int slot = 0; slot < board.slotCount; slot++) {
-                for (int act = 0; act < board.law.actCount; act++) {
-                    if (board.mayWrite(slot, act)) {
+                int open = board.actsToWrite(slot);
+                for (int act = 0; act < MAX_ACTS && open >>> act != 0; act++) {
+                    if (isIn(open, act)) {
                         int behind = before + gainOf(slot, act);
                         if (answer == NONE || behind < worst) {
                             answer = 100 * act + slot;
