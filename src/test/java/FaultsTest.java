@@ -11,6 +11,7 @@ public final class FaultsTest {
         impossibleNumbers();
         unknownNames();
         goodTexts();
+        bytesCutOff();
         all();
         Check.finish("FaultsTest");
     }
@@ -158,7 +159,10 @@ public final class FaultsTest {
         fault(2, "force " + "(1)*".repeat(15) + "^1;");
         fault(2, "force " + "(1)*".repeat(15) + "^(1);");
         fault(2, "force " + "1 or ".repeat(30) + "^long;");
-        good(0, "force " + "1+".repeat(29) + "1;");
+        for (String sign : new String[] {"+", "-", "*", "/", "%", " and ", " or "}) {
+            good(0, "force " + ("1" + sign).repeat(29) + "1;");
+            fault(2, "force " + ("1" + sign).repeat(29) + "1" + sign + "^1;");
+        }
         good(0, "force " + "(1)*".repeat(14) + "(1);");
         fault(2, "force " + "(".repeat(7) + "^(1" + ")".repeat(8) + ";");
         good(0, "force " + "(".repeat(7) + "1" + ")".repeat(7) + ";");
@@ -233,6 +237,27 @@ public final class FaultsTest {
         good(3, TWO + "act abcde;if ab and cd then ab;if ab and abcde then cd;");
         good(1, "act down;");
         good(1, "force(1);party p;act ab p-1;");
+    }
+
+    /** Bytes behind the end of the tape do not count, though they were fed. */
+    private static void bytesCutOff() {
+        String text = "size 2 by 2;party pq;act abc pq 12x;";
+        for (int length = 0; length < text.length(); length++) {
+            GridLaws cut = new GridLaws();
+            Check.feed(cut, text);
+            cut.end(length);
+            GridLaws plain = new GridLaws();
+            Check.feed(plain, text.substring(0, length));
+            Check.due("cut at " + length, plain.grid(), cut.grid());
+            Check.due("fault cut at " + length, plain.fault(0), cut.fault(0));
+            Check.due("place cut at " + length, plain.fault(1), cut.fault(1));
+        }
+        GridLaws x = new GridLaws();
+        Check.feed(x, "force 12x");
+        x.end(8);
+        Check.due("grid", GridLaws.NONE, x.grid());
+        Check.due("fault", 2, x.fault(0));
+        Check.due("place", 8, x.fault(1));
     }
 
     /** What a FAULT leaves as it was, and what a good text makes new. */

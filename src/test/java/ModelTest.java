@@ -9,9 +9,9 @@ public final class ModelTest {
 
     private final Random random;
     private final StringBuilder text = new StringBuilder();
-    private final PlainModel.Spec spec = new PlainModel.Spec();
-    private GridLaws x = new GridLaws();
-    private PlainModel model = new PlainModel(spec);
+    private PlainModel.Spec spec = new PlainModel.Spec();
+    private final GridLaws x = new GridLaws();
+    private PlainModel model = new PlainModel(spec, 0);
     private String last = "";
 
     private ModelTest(long seed) {
@@ -42,6 +42,8 @@ public final class ModelTest {
     }
 
     private void tell() {
+        text.setLength(0);
+        spec = new PlainModel.Spec();
         if (below(6) != 0) {
             spec.rows = 2 + below(3);
             spec.columns = 2 + below(4);
@@ -60,7 +62,14 @@ public final class ModelTest {
             spec.force = any(0);
             put(";");
         }
-        model = new PlainModel(spec);
+        if (below(3) == 0) {
+            // A FAULT at the very end leaves all as it was.
+            Check.due("grid() of a fault", GridLaws.NONE, Check.grid(x, text + "!"));
+            Check.due("its place", text.length(), x.fault(1));
+            x.end(0);
+            look();
+        }
+        model = new PlainModel(spec, model.about(11));
         Check.due("grid()", spec.acts.size(), Check.grid(x, text.toString()));
     }
 
@@ -242,6 +251,10 @@ public final class ModelTest {
             look();
             if (i % 3 == 0) {
                 search();
+            }
+            if (i % 40 == 39) {
+                tell();
+                look();
             }
         }
     }

@@ -44,12 +44,13 @@ final class PlainModel {
     private final Map<Integer, Moment> boxes = new LinkedHashMap<>();
     private final List<Sight> sights = new ArrayList<>();
     private final Map<Integer, Integer> untold = new LinkedHashMap<>();
-    private int time = 0;
+    private int time;
     private List<Integer> lying = new ArrayList<>();
     private final Map<String, List<Slot>> slotsByShape = new LinkedHashMap<>();
 
-    PlainModel(Spec spec) {
+    PlainModel(Spec spec, int time) {
         this.spec = spec;
+        this.time = time;
         StringBuilder all = new StringBuilder();
         for (int i = 0; i < spec.rows * spec.columns; i++) {
             all.append(spec.black.contains(i) ? '#' : '.');

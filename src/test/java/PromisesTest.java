@@ -234,6 +234,24 @@ public final class PromisesTest {
         due("b", 100, three.sitting());
         due("c", 1, three.sitting());
         due("a again", NONE, three.sitting());
+        lastYears();
+    }
+
+    private static void lastYears() {
+        GridLaws x = Check.of("party p;act abc p 1;force year/100;");
+        for (int year = 0; year < 999; year++) {
+            due("sitting", year == 0 ? 0 : NONE, x.sitting());
+        }
+        due("the last year", 999, x.about(4));
+        due("worth in it", 9, x.will(0, 0));
+        due("no sitting behind it", GAP, x.will(0, 1));
+        due("no more", SPENT, x.sitting());
+        due("nothing is done", 999, x.about(4));
+        due("nor kept", 40, x.about(8));
+        x.undo();
+        due("one more", 9, x.will(0, 1));
+        due("again", NONE, x.sitting());
+        due("nothing to redo", 0, x.about(9));
     }
 
     private static void undoing() {
@@ -375,6 +393,11 @@ public final class PromisesTest {
         due("not binds more than and", 0, forceBy("not 0 and 0", 0));
         due("not not", 1, forceBy("not not 5", 0));
         due("value as it is", 42, forceBy("(42)", 0));
+        String nots = "not ".repeat(7);
+        due("the longest formula", 1, forceBy((nots + "1 or ").repeat(29) + nots + "0", 0));
+        due("the longest formula", 0, forceBy((nots + "1 or ").repeat(29) + nots + "1", 0));
+        due("the deepest formula", 4, forceBy("1-(2-(3-(4-(5-(6-(7-(8)))))))+8", 0));
+        due("the most to be joined", 36, forceBy("8+".repeat(3) + "3*(" + "1+".repeat(2) + "2*(1+1-(0<1 and 1=1)))", 0));
         GridLaws x = Check.of("act abc;force year+long;");
         x.write(0, 0);
         for (int year = 0; year < 120; year++) {
@@ -538,6 +561,11 @@ public final class PromisesTest {
         due("best of none", GAP, x.best(2));
         due("nothing lies there", NONE, x.lies(0));
         due("numbers", 0, x.about(14));
+        due("best again", 8, x.best(0));
+        due("grid", 0, Check.grid(x, ""));
+        due("nothing lies there", NONE, x.lies(0));
+        due("numbers", 0, x.about(14));
+        due("grid", 5, Check.grid(x, SQUARE));
         for (int odd : ODD) {
             due("best of none", GAP, x.best(odd));
             due("span of none", GAP, x.span(odd, 0));
