@@ -59,4 +59,22 @@ final class Check {
         }
         return x;
     }
+
+    /** A text with a FAULT: the sign ^ marks its place and is not fed. */
+    static void fault(int want, String marked) {
+        int place = marked.indexOf('^');
+        String text = marked.substring(0, place) + marked.substring(place + 1);
+        GridLaws x = new GridLaws();
+        due("grid of " + marked, GridLaws.NONE, grid(x, text));
+        due("fault of " + marked, want, x.fault(0));
+        due("place of " + marked, place, x.fault(1));
+    }
+
+    /** A text without a FAULT. */
+    static void good(int acts, String text) {
+        GridLaws x = new GridLaws();
+        due("grid of " + text, acts, grid(x, text));
+        due("fault of " + text, 0, x.fault(0));
+        due("place of " + text, GridLaws.NONE, x.fault(1));
+    }
 }

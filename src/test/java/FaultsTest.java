@@ -17,19 +17,11 @@ public final class FaultsTest {
     }
 
     private static void fault(int want, String marked) {
-        int place = marked.indexOf('^');
-        String text = marked.substring(0, place) + marked.substring(place + 1);
-        GridLaws x = new GridLaws();
-        Check.due("grid of " + marked, GridLaws.NONE, Check.grid(x, text));
-        Check.due("fault of " + marked, want, x.fault(0));
-        Check.due("place of " + marked, place, x.fault(1));
+        Check.fault(want, marked);
     }
 
     private static void good(int acts, String text) {
-        GridLaws x = new GridLaws();
-        Check.due("grid of " + text, acts, Check.grid(x, text));
-        Check.due("fault of " + text, 0, x.fault(0));
-        Check.due("place of " + text, GridLaws.NONE, x.fault(1));
+        Check.good(acts, text);
     }
 
     private static void noTokens() {
