@@ -23,6 +23,7 @@ public final class CallEdgesTest {
         promise6Square();
         promise7Slots();
         promise8Slot();
+        slotsThatWere();
         promise9Fits();
         promise10Places();
         promise11Wants();
@@ -171,6 +172,30 @@ public final class CallEdgesTest {
             x.end(0);
             due("grid", 1, Check.grid(x, text));
         });
+        // An object holds two texts at once, the one in use and the one being read: each is cleared.
+        for (int told = 1; told <= 3; told++) {
+            int rounds = told;
+            Twins.areAlike("a text behind " + told + " others", x -> Check.grid(x, text), x -> {
+                for (int i = 0; i < rounds; i++) {
+                    Check.grid(x, "size 4 by 5;black 0 0;party p;act aei p 7;act oui p 8;if aei and oui then aei;"
+                            + "never aei oui;force 2*vowels;");
+                }
+                due("grid", 1, Check.grid(x, text));
+            });
+            GridLaws y = new GridLaws();
+            for (int i = 0; i < rounds; i++) {
+                Check.grid(y, "size 4 by 5;party p;act aei p 7;act oui p 8;" + "black 0 0;black 0 1;".repeat(i % 2));
+            }
+            Check.grid(y, "party p;party q;act bcd;act efg;black 2 2;force 1+vowels;");
+            due("rows not told", 3, y.about(2));
+            due("columns not told", 3, y.about(3));
+            due("one black cell", 1, y.about(5));
+            due("wants not told", 0, y.wants(0, 0));
+            due("letters of the new acts alone", 3, y.fits(0));
+            y.write(0, 0);
+            due("bcd alone", 1, y.force());
+            due("no vowels", 1, y.slot(0, 4));
+        }
         GridLaws x = busy();
         x.end(7);
         due("how many acts", 1, x.grid());
@@ -293,11 +318,36 @@ public final class CallEdgesTest {
             refused("slot(" + far + ", 0)", y -> y.slot(far, 0));
             refused("slot(0, " + far + ")", y -> y.slot(0, far));
         }
+        for (int slot = 0; slot < 4; slot++) {
+            due("way of slot " + slot, slot < 2 ? 1 : 0, x.slot(slot, 2));
+        }
         // What was a slot ahead of a black cell is none such behind it.
         x = new GridLaws();
         due("slot 5", 2, x.slot(5, 0));
         x.blacken(4);
         due("slot 4 is no more", NONE, x.slot(4, 0));
+    }
+
+    /** A row of 3, a row of 2 and three columns are two rows and two columns behind one black CELL. */
+    private static void slotsThatWere() {
+        GridLaws x = Check.of("size 2 by 3;act ab;");
+        due("three columns", 28, x.places(0));
+        x.blacken(0);
+        due("a row and two columns", 13, x.places(0));
+        x = Check.of("size 2 by 3;act abc;act def;");
+        x.write(0, 0);
+        x.write(1, 1);
+        due("three columns of no act", 28, x.nonsense());
+        x.blacken(0);
+        due("a row and two columns of no act", 13, x.nonsense());
+        due("def", 2, x.force());
+        x = Check.of("size 2 by 3;party p;party q;act ab p 5;act cd p 1;");
+        x.write(0, 4);
+        due("ab there, cd into a column", 6, x.play(0, 1, 0));
+        x.blacken(0);
+        due("ab is there once", 6, x.play(0, 1, 0));
+        due("cd into the first column that is left", 102, x.play(0, 1, 1));
+        due("worth", 5, x.worth(0));
     }
 
     /** "(IN FORCE or not), as bits; NONE if there is none such" */
@@ -750,6 +800,12 @@ public final class CallEdgesTest {
         Check.due("untell(1) later", false, x.untell(1));
         Check.due("untell(29) of none", false, new GridLaws().untell(29));
         Check.due("untell(0) of none", false, new GridLaws().untell(0));
+        GridLaws anew = busy();
+        anew.end(0);
+        Check.grid(anew, RING);
+        Check.due("untell(2) of an earlier grid", false, anew.untell(2));
+        due("sight", 0, anew.sight(0, 1, true));
+        Check.due("untell(1) of an earlier grid", false, anew.untell(1));
         // It stays untold since the first time.
         due("known at 14", 1, x.prints(14));
         due("known at 15", 2, x.prints(15));

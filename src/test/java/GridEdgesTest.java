@@ -32,6 +32,7 @@ public final class GridEdgesTest {
         byZero();
         relations();
         ofWhatIsNotZero();
+        longestFormulas();
         longOfAnAct();
         vowels();
         acrossAndLine();
@@ -298,6 +299,9 @@ public final class GridEdgesTest {
             force(i % 3 == 0 ? 1 : 0, two[0] + "<" + two[1]);
             force(i % 3 == 1 ? 1 : 0, two[0] + "=" + two[1]);
             force(i % 3 == 2 ? 1 : 0, two[0] + ">" + two[1]);
+            force(i % 3 == 0 ? 11 : 10, "10+(" + two[0] + "<" + two[1] + ")");
+            force(i % 3 == 1 ? 11 : 10, "10+(" + two[0] + "=" + two[1] + ")");
+            force(i % 3 == 2 ? 11 : 10, "10+(" + two[0] + ">" + two[1] + ")");
         }
     }
 
@@ -317,6 +321,23 @@ public final class GridEdgesTest {
         force(0, "not (0-1)");
         force(0, "not 2048*1024*1024");
         force(1, "not 4096*1024*1024");
+        force(10, "10+(0 and 4)");
+        force(11, "10+(4 and 4)");
+        force(10, "10+(0 or 0)");
+        force(11, "10+(4 or 4)");
+        force(10, "10+(not 4)");
+        force(11, "10+(not 0)");
+    }
+
+    /** The longest formulas that the text allows are taken whole: 30 units, and 7 nots ahead of each. */
+    private static void longestFormulas() {
+        String nots = "not ".repeat(7);
+        force(1, (nots + "1 or ").repeat(29) + nots + "0");
+        force(0, (nots + "1 or ").repeat(29) + nots + "1");
+        force(1, (nots + "0 and ").repeat(29) + nots + "0");
+        force(0, (nots + "0 and ").repeat(29) + nots + "1");
+        force(30, "1+".repeat(29) + "1");
+        force(8, "1+(1+(1+(1+(1+(1+(1+(1)))))))");
     }
 
     /** "long (its letters)": 2 to 5, across and down. */
@@ -417,6 +438,16 @@ public final class GridEdgesTest {
         due("both cross", 1 + 2 + 4 + 16, x.follows());
         x.strike(3);
         due("one of both again", 3, x.follows());
+        // One across and one down, each crossed by another, but not by one another.
+        x = Check.of("size 2 by 5;black 0 2;black 1 2;act ab;act ac;act de;act df;act xx;if ab and df then xx;");
+        due("across at 3", 3, x.slot(1, 0));
+        due("down at 3", 3, x.slot(6, 0));
+        x.write(0, 0);
+        x.write(1, 4);
+        x.write(2, 1);
+        x.write(3, 6);
+        due("four are in force", 15, x.force());
+        due("nothing more", 15, x.follows());
     }
 
     /** "or one of both is not IN FORCE itself" */
@@ -717,6 +748,9 @@ public final class GridEdgesTest {
         x = Check.of(ROW + "party p;act abc p -3;act xyz p -9;");
         due("greatest below 0", -3, x.best(0));
         due("its act", 0, x.lies(0));
+        x = Check.of(ROW + "party p;act abc p 2;act xyz p 5;act zzz p 9;");
+        due("least of three above 0", 2, x.span(0, 0));
+        due("greatest of three", 9, x.span(0, 1));
     }
 
     /** "REFORM: the SLOT as long as it is in which fewest letters are other ones; of like ones the first" */
@@ -768,6 +802,19 @@ public final class GridEdgesTest {
         due("both bring", 7, x.play(0, 1, 0));
         due("by slots, then by acts", 100, x.play(0, 1, 1));
         due("ab into slot 1", 1, x.play(0, 1, 2));
+        x = Check.of("size 2 by 3;black 0 1;black 1 1;" + two + "act ab p 1;force line+1;");
+        due("the second slot brings more", 3, x.play(0, 1, 0));
+        due("ab into slot 1", 1, x.play(0, 1, 1));
+        due("no other act", NONE, x.play(0, 1, 2));
+        // Whoever writes def brings what it ends down, too, so all three ways come to the same.
+        x = Check.of("size 2 by 3;" + two + "act abc;act def q 2;act ad p 9;act be q 3;");
+        x.write(0, 0);
+        due("what an act ends counts", 4, x.play(0, 1, 0));
+        due("def into the second row", 101, x.play(0, 1, 1));
+        due("nothing is left", NONE, x.play(0, 1, 2));
+        x = Check.of("size 2 by 3;black 0 1;black 1 1;" + two + "act cc p 9;act ab q 1;act ba q 1;");
+        due("cc into slot 0", 0, x.play(0, 1, 1));
+        due("of like answers the first", 101, x.play(0, 1, 2));
     }
 
     /** "CAPITAL: .. the longest ACT across .. meets one down .., the longest of these; .. the first CELL" */
@@ -919,6 +966,8 @@ public final class GridEdgesTest {
         // By the second 2, 2, 1; by the third 3, 2; by the first all five.
         due("two at the most", 1, x.ask(0, 0));
         due("two", 2, x.ask(1, 0));
+        x = Check.of(ROW + "act zab;act zbb;act zcb;");
+        due("z leaves all three", 1, x.ask(0, 0));
         // A cell of a slot, not the first cell of the grid.
         x = Check.of("size 2 by 3;black 0 0;black 0 1;black 0 2;act abc;");
         due("the first cell of the slot", 3, x.ask(0, 0));

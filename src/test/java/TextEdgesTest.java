@@ -24,6 +24,7 @@ public final class TextEdgesTest {
         sizeAhead();
         parties();
         acts();
+        namesToldAlready();
         lettersOfAnAct();
         partiesToldAhead();
         eachPartyOnce();
@@ -44,6 +45,7 @@ public final class TextEdgesTest {
         brackets();
         nots();
         bracketsAndNots();
+        formulasCutShort();
         firstByItsPlace();
         theEnd();
         atOnePlaceTheLeast();
@@ -292,6 +294,18 @@ public final class TextEdgesTest {
         fault(2, acts(16) + "^act xa;");
         fault(2, acts(16) + "^act a;");
         good(16, acts(16) + "party p;");
+    }
+
+    /** "3 a NAME told already (of its sort" */
+    private static void namesToldAlready() {
+        fault(3, "act ab;act ^ab;");
+        fault(3, acts(15) + "act ^xa;");
+        fault(3, acts(15) + "act ^xo p 1;");
+        fault(3, "party ab;party ^ab;");
+        fault(3, "party a;act ab;party ^a;");
+        good(1, "party ab;act ab;");
+        good(1, "act ab;party ab;");
+        good(3, "act ab;act ba;act abb;");
     }
 
     /** "(a NAME of 2 .. 5 letters": 1 to 9 letters. */
@@ -555,6 +569,20 @@ public final class TextEdgesTest {
         good(0, "force not not not not not not 1<(1);");
         fault(2, "force not not not not not not not 1<^(1);");
         good(0, "force not not not not not not not 1 and (1);");
+    }
+
+    /** A formula that ends where a unit must stand: the sign that ends the line can't stand there. */
+    private static void formulasCutShort() {
+        for (String ahead : new String[] {"", "not ", "1 or ", "1 and ", "1<", "1>", "1=", "1+", "1-", "1*", "1/", "1%",
+            "(1)*", "not 1 and not ", "1 or 1 and ", "1+1*"}) {
+            fault(2, "force " + ahead + "^;");
+            fault(2, "force (" + ahead + "^);");
+            fault(2, "force " + ahead + "(^);");
+            fault(2, "force " + ahead + "1^);");
+            fault(2, "force (" + ahead + "1^;");
+            good(0, "force " + ahead + "1;");
+            good(0, "force (" + ahead + "1);");
+        }
     }
 
     /** "FAULTS, the first by its place (bytes from 0": of many the one that comes first. */
