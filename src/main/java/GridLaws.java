@@ -158,10 +158,11 @@ public final class GridLaws {
         if (!law.hasAct(act) || !board.hasSlot(slot) || !isIn(board.actsToWrite(slot), act)) {
             return NONE;
         }
-        int fresh = board.putLetters(slot, act);
+        int fresh = board.blanksIn[slot];
+        board.putLetters(slot, act);
         board.lookAtSlots();
         history.keep(board);
-        return Integer.bitCount(fresh);
+        return fresh;
     }
 
     public int strike(int cell) {
@@ -1363,9 +1364,11 @@ public final class GridLaws {
         }
 
         int actsThatFit(int slot) {
-            int bits = law.ofLength[lengths[slot]];
-            for (int i = 0; i < lengths[slot] && bits != 0; i++) {
-                bits &= law.withLetter[i * SQUARES + cells[slotCells[slot * MAX_LETTERS + i]]];
+            int length = lengths[slot];
+            int ofSlot = slot * MAX_LETTERS;
+            int bits = law.ofLength[length];
+            for (int i = 0; i < length && bits != 0; i++) {
+                bits &= law.withLetter[i * SQUARES + cells[slotCells[ofSlot + i]]];
             }
             return bits;
         }
@@ -1383,17 +1386,22 @@ public final class GridLaws {
             return count;
         }
 
-        /** Answers which CELLS of the SLOT were blank, as bits: what takeLetters wants. */
-        int putLetters(int slot, int act) {
-            int fresh = 0;
+        /** Which CELLS of the SLOT are blank, as bits: what takeLetters wants behind putLetters. */
+        int blanksOf(int slot) {
+            int bits = 0;
             for (int i = 0; i < lengths[slot]; i++) {
-                int cell = cellOf(slot, i);
-                if (cells[cell] == BLANK) {
-                    cells[cell] = law.letterOf(act, i);
-                    fresh |= 1 << i;
-                }
+                bits |= cells[cellOf(slot, i)] == BLANK ? 1 << i : 0;
             }
-            return fresh;
+            return bits;
+        }
+
+        void putLetters(int slot, int act) {
+            int ofSlot = slot * MAX_LETTERS;
+            int ofAct = act * MAX_LETTERS;
+            int length = lengths[slot];
+            for (int i = 0; i < length; i++) {
+                cells[slotCells[ofSlot + i]] = law.letters[ofAct + i];
+            }
         }
 
         void takeLetters(int slot, int fresh) {
@@ -1731,15 +1739,24 @@ public final class GridLaws {
                 return;
             }
             int open = board.actsToWrite(slot) & ~used;
-            for (int act = 0; act < MAX_ACTS && open >>> act != 0 && !spent; act++) {
-                if (isIn(open, act)) {
-                    tried++;
-                    spent = tried > MAX_TRIED;
-                    if (!spent) {
-                        int fresh = board.putLetters(slot, act);
-                        give(slot, act, used, worth);
-                        board.takeLetters(slot, fresh);
-                    }
+            if (open != 0) {
+                int fresh = board.blanksOf(slot);
+                tryEach(open, slot, used, worth);
+                board.takeLetters(slot, fresh);
+            }
+        }
+
+        private void tryEach(int acts, int slot, int used, int worth) {
+            int open = acts;
+            for (int i = 0; i < MAX_ACTS && open != 0 && !spent; i++) {
+                int act = Integer.numberOfTrailingZeros(open);
+                open &= open - 1;
+                tried++;
+                spent = tried > MAX_TRIED;
+                if (!spent) {
+                    // All ACTS to try have as many letters: each is written over the one ahead.
+                    board.putLetters(slot, act);
+                    give(slot, act, used, worth);
                 }
             }
         }
@@ -1813,7 +1830,8 @@ public final class GridLaws {
         }
 
         private void tryMove(int slot, int act) {
-            int fresh = board.putLetters(slot, act);
+            int fresh = board.blanksOf(slot);
+            board.putLetters(slot, act);
             board.lookAtSlots();
             int behind = worstReply();
             if (move == NONE || behind > outcome) {

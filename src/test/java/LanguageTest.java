@@ -110,6 +110,8 @@ public final class LanguageTest {
             Check.due(type + " has some twenty fields: " + fields, true, fields <= 20);
             for (Method method : type.getDeclaredMethods()) {
                 Check.due(method + " takes seven at most", true, method.getParameterCount() <= 7);
+                Check.due(method + " has its own name", true, type == GridLaws.class
+                        || !(" " + FACE).contains(" " + method.getName() + "("));
             }
         }
     }
