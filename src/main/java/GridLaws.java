@@ -234,7 +234,7 @@ public final class GridLaws {
     }
 
     public int capital() {
-        int across = board.longestAct(0, board.acrossCount);
+        int across = board.longestActAcross();
         int down = 0;
         int capital = NONE;
         for (int cell = 0; cell < board.cellCount && across > 0; cell++) {
@@ -1513,9 +1513,9 @@ public final class GridLaws {
             return slot == NONE || acts[slot] == NONE ? 0 : lengths[slot];
         }
 
-        int longestAct(int from, int to) {
+        int longestActAcross() {
             int longest = 0;
-            for (int slot = from; slot < to; slot++) {
+            for (int slot = 0; slot < acrossCount; slot++) {
                 longest = Math.max(longest, actLengthAt(slot));
             }
             return longest;
